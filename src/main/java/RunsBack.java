@@ -858,7 +858,7 @@ public final class RunsBack {
 
         /** From the latest on, so that the inputs come to wait in their order. */
         void dropBehind(int t, Outside outside) {
-            for (int k = count - 1; has(k) && isBehind(k, t); k--) {
+            for (int k = count - 1; k >= 0 && isBehind(k, t); k--) {
                 if (origin[k] == INPUT) {
                     outside.addFirst(number[k]);
                 }
@@ -922,7 +922,7 @@ public final class RunsBack {
         }
 
         void dropFrom(int t) {
-            for (int k = count - 1; has(k) && time[k] >= t; k--) {
+            for (int k = count - 1; k >= 0 && has(k) && time[k] >= t; k--) {
                 count = k;
             }
         }
@@ -999,7 +999,7 @@ public final class RunsBack {
 
         private void dropWhatGoesBy(int t) {
             int stay = 0;
-            for (int i = 0; has(i); i++) {
+            for (int i = 0; i < count && i < HELD_ROOM; i++) {
                 int goes = goesAt(i);
                 if (goes == NONE || goes > t) {
                     times[stay] = times[i];
@@ -1010,15 +1010,15 @@ public final class RunsBack {
         }
 
         void dropAbove(int t) {
-            for (int i = count - 1; has(i) && times[i] > t; i--) {
+            for (int i = count - 1; i >= 0 && timeOf(i) > t; i--) {
                 count = i;
             }
         }
 
         int latestBy(int t) {
             int latest = 0;
-            for (int i = 0; has(i) && times[i] <= t; i++) {
-                latest = times[i];
+            for (int i = 0; i < count && timeOf(i) <= t; i++) {
+                latest = timeOf(i);
             }
             return latest;
         }
@@ -1027,10 +1027,10 @@ public final class RunsBack {
         int stepsToFind(int had, int t) {
             int steps = 0;
             int upTo = t;
-            for (int i = count - 1; has(i) && upTo >= had && upTo >= 0; i--) {
-                if (times[i] <= upTo) {
-                    steps += upTo - times[i];
-                    upTo = times[i] - 1;
+            for (int i = count - 1; i >= 0 && upTo >= had; i--) {
+                if (timeOf(i) <= upTo) {
+                    steps += upTo - timeOf(i);
+                    upTo = timeOf(i) - 1;
                 }
             }
             return steps;
@@ -1158,7 +1158,7 @@ public final class RunsBack {
         }
 
         void dropBehind(int t) {
-            for (int n = count - 1; has(n) && time[n] > t; n--) {
+            for (int n = count - 1; n >= 0 && timeOf(n) > t; n--) {
                 if (isPlace(place[n])) {
                     latest[place[n]] = ahead[n];
                 }
@@ -1207,7 +1207,7 @@ public final class RunsBack {
         int changeTimes(int at, int k) {
             int found = 0;
             int foundTime = NONE;
-            for (int n = 0; has(n); n++) {
+            for (int n = 0; n < count && n < PUTS_MOST; n++) {
                 if (place[n] == at && time[n] != foundTime && changes[n] != changesOf(ahead[n])) {
                     if (found == k) {
                         return time[n];
@@ -1223,7 +1223,7 @@ public final class RunsBack {
         void markAllBelow(int n, boolean[] marks) {
             Arrays.fill(marks, false);
             mark(marks, n);
-            for (int i = n; has(i); i--) {
+            for (int i = Math.min(n, count - 1); i >= 0; i--) {
                 if (isMarked(marks, i)) {
                     mark(marks, lookedOne[i]);
                     mark(marks, lookedTwo[i]);
@@ -1240,7 +1240,7 @@ public final class RunsBack {
         /** When the i-th step marked began; i NONE: how many are. */
         int markedStep(int i, boolean[] marks) {
             int found = 0;
-            for (int n = 0; has(n); n++) {
+            for (int n = 0; n < count && n < PUTS_MOST; n++) {
                 if (isMarked(marks, n) && began[n] != NONE) {
                     if (found == i) {
                         return began[n];
@@ -1254,7 +1254,7 @@ public final class RunsBack {
         /** Marks all that rest on an entry of the log. */
         void markAllAbove(int logEntry, boolean[] marks) {
             Arrays.fill(marks, false);
-            for (int n = 0; has(n); n++) {
+            for (int n = 0; n < count && n < PUTS_MOST; n++) {
                 if (entry[n] == logEntry || isMarked(marks, lookedOne[n])
                         || isMarked(marks, lookedTwo[n])) {
                     mark(marks, n);
