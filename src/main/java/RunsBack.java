@@ -1128,7 +1128,7 @@ public final class RunsBack {
             return sortOf(n) == aSort && numberOf(n) == aNumber;
         }
 
-        /** Whether the place became another one by it. */
+        /** Whether the place became another one by it; what it rests on is told right behind. */
         boolean add(int t, int at, int newSort, int newNumber) {
             if (!isPlace(at) || count < 0 || count >= PUTS_MOST) {
                 return false;
@@ -1143,7 +1143,6 @@ public final class RunsBack {
             ahead[count] = old;
             latest[at] = count;
             count++;
-            restLatestOn(NONE, NONE, NONE, NONE);
             return other;
         }
 

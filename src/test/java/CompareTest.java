@@ -16,7 +16,7 @@ public final class CompareTest {
     }
 
     public static void main(String[] args) {
-        int rounds = args.length > 0 ? Integer.parseInt(args[0]) : 500;
+        int rounds = args.length > 0 ? Integer.parseInt(args[0]) : 1500;
         int bad = 0;
         for (int i = 0; i < rounds && bad < 3; i++) {
             CompareTest test = new CompareTest(i);

@@ -191,6 +191,10 @@ public final class PromisesTest {
         due(4, "calls", x.call(-1, 0), 0);
         due(4, "place", x.at(0, 0, 0), 0);
         due(4, "changes", x.at(0, 0, 2), 0);
+        due(4, "history", x.history(0, -1, 0), 0);
+        x.run(1);
+        x.poke(5, 2, 5);
+        due(4, "nothing hangs of old", x.hangs(0, 0, 0), 32);
         due(4, "kept stays", x.look(7), 1);
         due(4, "X stays", x.look(9), drawn);
         x.use(0);
@@ -889,7 +893,7 @@ public final class PromisesTest {
         due(23, "stack", x.call(1, 2), 1);
         due(23, "p", x.call(0, 1), 2);
         due(23, "stack", x.call(0, 2), 0);
-        for (int[] b : new int[][] {{-2, 0}, {2, 0}, {0, -1}, {0, 3}}) due(23, "bad", x.call(b[0], b[1]), -1);
+        for (int[] b : new int[][] {{-2, 0}, {2, 0}, {0, -1}, {0, 3}, {-1, 3}}) due(23, "bad", x.call(b[0], b[1]), -1);
         x.run(500);
         due(23, "the first 100", x.call(-1, 0), 100);
         due(23, "the last of them", x.call(99, 0), 49 * 5 + 1);
@@ -918,7 +922,7 @@ public final class PromisesTest {
         for (int k = 0; k < 4; k++) {
             for (int w = 0; w < 5; w++) due(24, "entry " + k + " " + w, x.log(k, w), want[k][w]);
         }
-        for (int[] b : new int[][] {{-2, 0}, {4, 0}, {0, -1}, {0, 5}}) due(24, "bad", x.log(b[0], b[1]), NO);
+        for (int[] b : new int[][] {{-2, 0}, {4, 0}, {0, -1}, {0, 5}, {-1, 5}}) due(24, "bad", x.log(b[0], b[1]), NO);
         x.at(2, 0, 0);
         due(24, "a replay logs nothing", x.log(-1, 0), 4);
     }
@@ -941,7 +945,7 @@ public final class PromisesTest {
             due(25, "time " + k, x.held(k, 0), times[k]);
             due(25, "goes " + k, x.held(k, 1), go[k]);
         }
-        for (int[] b : new int[][] {{-2, 0}, {3, 0}, {0, -1}, {0, 2}}) due(25, "bad", x.held(b[0], b[1]), -1);
+        for (int[] b : new int[][] {{-2, 0}, {3, 0}, {0, -1}, {0, 2}, {-1, 2}}) due(25, "bad", x.held(b[0], b[1]), -1);
         x.run(3);
         due(25, "both gone", x.held(1, 0), 16);
         due(25, "at 16", x.held(-1, 0), 2);
