@@ -99,7 +99,9 @@ public final class RunsBack {
     private final Outside outside = new Outside();
     private final Beside beside = new Beside();
     private final boolean[] marks = new boolean[PUTS_MOST];
-    private final Run[] kept = new Run[KEPT_MOST];
+    /** All rows of all runs are made with the object, as its room is counted: no call makes any. */
+    private final Run roomOfNow = new Run();
+    private final Run[] roomsOfKept = new Run[KEPT_MOST];
     private int keptCount = 0;
     /** The run that is now; null as long as none has begun. */
     private Run now = null;
@@ -111,6 +113,9 @@ public final class RunsBack {
     private int latestReplayed = 0;
 
     public RunsBack() {
+        for (int i = 0; i < KEPT_MOST; i++) {
+            roomsOfKept[i] = new Run();
+        }
     }
 
     // ---- the program, and the run that is now ----
@@ -136,9 +141,7 @@ public final class RunsBack {
     }
 
     public int begin() {
-        if (now == null) {
-            now = new Run();
-        }
+        now = roomOfNow;
         now.start(program, unitToCome, depthToCome);
         outside.clearInputs();
         return program.size();
@@ -202,10 +205,11 @@ public final class RunsBack {
     }
 
     public int keep() {
-        if (now == null || keptCount >= KEPT_MOST) {
+        Run room = roomOfKept(keptCount);
+        if (now == null || room == null) {
             return NONE;
         }
-        kept[keptCount] = new Run(now, now.statusWith(outside));
+        room.takeFrom(now, now.statusWith(outside));
         keptCount++;
         return keptCount - 1;
     }
@@ -538,12 +542,17 @@ public final class RunsBack {
         return number >= 0 && number < keptCount && number < KEPT_MOST;
     }
 
+    /** Also one in which no run is kept so far; null if there is no room of that number. */
+    private Run roomOfKept(int number) {
+        return number >= 0 && number < KEPT_MOST ? roomsOfKept[number] : null;
+    }
+
     /** A kept run by its number, the one that is now by NONE; null if there is none such. */
     private Run numbered(int number) {
         if (number == NONE) {
             return now;
         }
-        return isKept(number) ? kept[number] : null;
+        return isKept(number) ? roomOfKept(number) : null;
     }
 
     private boolean isWatched(int place) {
@@ -647,6 +656,13 @@ public final class RunsBack {
 
     private static int placesOf(int what) {
         return what == 0 ? REGISTERS : CELLS;
+    }
+
+    private static void copyRow(int[] from, int[] to, int many) {
+        int all = Math.min(many, Math.min(from.length, to.length));
+        if (all > 0) {
+            System.arraycopy(from, 0, to, 0, all);
+        }
     }
 
     private static boolean isMarked(boolean[] marks, int i) {
@@ -785,28 +801,20 @@ public final class RunsBack {
 
     /** What came to a run from outside, as it came. */
     private static final class Log {
-        private final int[] time;
-        private final int[] origin;
-        private final int[] number;
-        private final int[] place;
-        private final int[] sort;
+        private final int[] time = new int[LOG_MOST];
+        private final int[] origin = new int[LOG_MOST];
+        private final int[] number = new int[LOG_MOST];
+        private final int[] place = new int[LOG_MOST];
+        private final int[] sort = new int[LOG_MOST];
         int count = 0;
 
-        Log() {
-            time = new int[LOG_MOST];
-            origin = new int[LOG_MOST];
-            number = new int[LOG_MOST];
-            place = new int[LOG_MOST];
-            sort = new int[LOG_MOST];
-        }
-
-        Log(Log other) {
-            time = other.time.clone();
-            origin = other.origin.clone();
-            number = other.number.clone();
-            place = other.place.clone();
-            sort = other.sort.clone();
+        void takeFrom(Log other) {
             count = other.count;
+            copyRow(other.time, time, count);
+            copyRow(other.origin, origin, count);
+            copyRow(other.number, number, count);
+            copyRow(other.place, place, count);
+            copyRow(other.sort, sort, count);
         }
 
         boolean has(int k) {
@@ -874,22 +882,16 @@ public final class RunsBack {
 
     /** The first calls of a run. */
     private static final class Calls {
-        private final int[] time;
-        private final int[] target;
-        private final int[] stacked;
+        private final int[] time = new int[CALLS_MOST];
+        private final int[] target = new int[CALLS_MOST];
+        private final int[] stacked = new int[CALLS_MOST];
         int count = 0;
 
-        Calls() {
-            time = new int[CALLS_MOST];
-            target = new int[CALLS_MOST];
-            stacked = new int[CALLS_MOST];
-        }
-
-        Calls(Calls other) {
-            time = other.time.clone();
-            target = other.target.clone();
-            stacked = other.stacked.clone();
+        void takeFrom(Calls other) {
             count = other.count;
+            copyRow(other.time, time, count);
+            copyRow(other.target, target, count);
+            copyRow(other.stacked, stacked, count);
         }
 
         private boolean has(int k) {
@@ -935,19 +937,15 @@ public final class RunsBack {
 
     /** The times whose states are held, rising. */
     private static final class Holding {
-        private final int[] times;
+        private final int[] times = new int[HELD_ROOM];
         int count = 0;
         int most = 0;
         int unit = 1;
         int depth = 1;
 
-        Holding() {
-            times = new int[HELD_ROOM];
-        }
-
-        Holding(Holding other) {
-            times = other.times.clone();
+        void takeFrom(Holding other) {
             count = other.count;
+            copyRow(other.times, times, count);
             most = other.most;
             unit = other.unit;
             depth = other.depth;
@@ -1043,48 +1041,37 @@ public final class RunsBack {
      */
     private static final class Puts {
         /** The time of the first state that it is part of. */
-        private final int[] time;
-        private final int[] place;
-        private final int[] sort;
-        private final int[] number;
-        private final int[] changes;
-        private final int[] ahead;
+        private final int[] time = new int[PUTS_MOST];
+        private final int[] place = new int[PUTS_MOST];
+        private final int[] sort = new int[PUTS_MOST];
+        private final int[] number = new int[PUTS_MOST];
+        private final int[] changes = new int[PUTS_MOST];
+        private final int[] ahead = new int[PUTS_MOST];
         /** When its step began; NONE of a poke. */
-        private final int[] began;
-        private final int[] entry;
-        private final int[] lookedOne;
-        private final int[] lookedTwo;
-        private final int[] latest;
+        private final int[] began = new int[PUTS_MOST];
+        private final int[] entry = new int[PUTS_MOST];
+        private final int[] lookedOne = new int[PUTS_MOST];
+        private final int[] lookedTwo = new int[PUTS_MOST];
+        private final int[] latest = new int[PLACES];
         int count = 0;
 
         Puts() {
-            time = new int[PUTS_MOST];
-            place = new int[PUTS_MOST];
-            sort = new int[PUTS_MOST];
-            number = new int[PUTS_MOST];
-            changes = new int[PUTS_MOST];
-            ahead = new int[PUTS_MOST];
-            began = new int[PUTS_MOST];
-            entry = new int[PUTS_MOST];
-            lookedOne = new int[PUTS_MOST];
-            lookedTwo = new int[PUTS_MOST];
-            latest = new int[PLACES];
             Arrays.fill(latest, NONE);
         }
 
-        Puts(Puts other) {
-            time = other.time.clone();
-            place = other.place.clone();
-            sort = other.sort.clone();
-            number = other.number.clone();
-            changes = other.changes.clone();
-            ahead = other.ahead.clone();
-            began = other.began.clone();
-            entry = other.entry.clone();
-            lookedOne = other.lookedOne.clone();
-            lookedTwo = other.lookedTwo.clone();
-            latest = other.latest.clone();
+        void takeFrom(Puts other) {
             count = other.count;
+            copyRow(other.time, time, count);
+            copyRow(other.place, place, count);
+            copyRow(other.sort, sort, count);
+            copyRow(other.number, number, count);
+            copyRow(other.changes, changes, count);
+            copyRow(other.ahead, ahead, count);
+            copyRow(other.began, began, count);
+            copyRow(other.entry, entry, count);
+            copyRow(other.lookedOne, lookedOne, count);
+            copyRow(other.lookedTwo, lookedTwo, count);
+            copyRow(other.latest, latest, PLACES);
         }
 
         void clear() {
@@ -1265,15 +1252,15 @@ public final class RunsBack {
     /** A run: what is there of each of its times, and what came to it. */
     private static final class Run {
         final Program program = new Program();
-        final Log log;
-        final Puts puts;
-        final Calls calls;
-        final Holding holding;
-        private final int[] counter;
-        private final int[] outs;
-        private final int[] check;
+        final Log log = new Log();
+        final Puts puts = new Puts();
+        final Calls calls = new Calls();
+        final Holding holding = new Holding();
+        private final int[] counter = new int[TIME_MOST + 1];
+        private final int[] outs = new int[TIME_MOST + 1];
+        private final int[] check = new int[TIME_MOST + 1];
         /** When the call began that lies on top of the stack; NONE of an empty one. */
-        private final int[] top;
+        private final int[] top = new int[TIME_MOST + 1];
         int time = 0;
         /** GOING, OVER, or TRAPPED and the trap. */
         int end = GOING;
@@ -1282,28 +1269,17 @@ public final class RunsBack {
         int backs = 0;
         int statusKept = GOING;
 
-        Run() {
-            log = new Log();
-            puts = new Puts();
-            calls = new Calls();
-            holding = new Holding();
-            counter = new int[TIME_MOST + 1];
-            outs = new int[TIME_MOST + 1];
-            check = new int[TIME_MOST + 1];
-            top = new int[TIME_MOST + 1];
-        }
-
-        Run(Run other, int status) {
+        void takeFrom(Run other, int status) {
             program.takeFrom(other.program);
-            log = new Log(other.log);
-            puts = new Puts(other.puts);
-            calls = new Calls(other.calls);
-            holding = new Holding(other.holding);
-            counter = other.counter.clone();
-            outs = other.outs.clone();
-            check = other.check.clone();
-            top = other.top.clone();
+            log.takeFrom(other.log);
+            puts.takeFrom(other.puts);
+            calls.takeFrom(other.calls);
+            holding.takeFrom(other.holding);
             time = other.time;
+            copyRow(other.counter, counter, time + 1);
+            copyRow(other.outs, outs, time + 1);
+            copyRow(other.check, check, time + 1);
+            copyRow(other.top, top, time + 1);
             end = other.end;
             replayed = other.replayed;
             backs = other.backs;

@@ -87,7 +87,7 @@ public final class FaceTest {
             "Exception", "Error", "Object", "protected", "volatile", "instanceof", "Random", "Thread", "Scanner"};
         for (String w : words) say(!s.matches("(?s).*\\b" + w + "\\b.*"), "the word " + w);
         say(!s.contains("->") && !s.contains("::"), "a lambda or a reference to a method");
-        say(!s.contains("System."), "System");
+        say(!s.replace("System.arraycopy(", "").contains("System"), "System beside arraycopy");
         for (String line : s.split("\n")) {
             if (line.trim().startsWith("import")) {
                 say(line.trim().equals("import java.util.Arrays;"), "import: " + line);
