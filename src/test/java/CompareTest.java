@@ -171,7 +171,7 @@ public final class CompareTest {
             case 14: if (rarely(3)) keep(); break;
             case 15: use(any(-1, rarely(9) ? 4 : y.kept.size() - 1)); break;
             case 16: use(-1); break;
-            case 17: if (rarely(8)) restart(); break;
+            case 17: if (rarely(8) && calls < 430) restart(); break;
             case 18: if (rarely(3)) manyGive(); break;
             default: ask();
         }

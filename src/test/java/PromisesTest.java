@@ -258,11 +258,12 @@ public final class PromisesTest {
         due(7, "ahead", x.at(3, 0, 1), 1);
         x.run(3);
         due(7, "goes on from it", x.at(7, 0, 1), MIN + 1);
-        for (int n = x.log(-1, 0); n < 800; n++) x.poke(9, 2, n);
-        due(7, "800", x.log(-1, 0), 800);
-        due(7, "801st", x.poke(9, 2, 1), -1);
-        x.begin();
-        due(7, "of the run now", x.poke(9, 2, 1), 1);
+        RunsBack full = Bench.nearlyFull(i(0));
+        due(7, "800th", full.poke(9, 2, 5), 1);
+        due(7, "800", full.log(-1, 0), 800);
+        due(7, "801st", full.poke(9, 2, 1), -1);
+        full.begin();
+        due(7, "of the run now", full.poke(9, 2, 1), 1);
         RunsBack y = gone(1, i(0));
         due(7, "over", y.poke(3, 1, 1), 1);
         due(7, "over still", y.look(1), 2);
@@ -439,10 +440,11 @@ public final class PromisesTest {
         z.give(MIN);
         due(8, "waits no more", z.look(1), 0);
         due(8, "two steps", z.run(5), 2);
-        for (int n = 1; n < 800; n++) z.poke(0, 2, n);
-        due(8, "waits ahead of full", z.look(1), 1);
-        z.give(1);
-        due(8, "full", z.look(1), 3);
+        RunsBack full = Bench.nearlyFull(i(20, 0, 5), i(19, 0));
+        full.run(1);
+        due(8, "waits ahead of full", full.look(1), 1);
+        full.give(1);
+        due(8, "full", full.look(1), 3);
     }
 
     private static void watch() {
@@ -1007,6 +1009,7 @@ public final class PromisesTest {
         due(28, "no unit is so large", x.sparing(8, 64, 1), -1);
         due(28, "unit 64", x.sparing(8, 63, 1), 64);
         for (int many = 1; many < 30; many++) {
+            x = new RunsBack();
             int unit = x.sparing(3, 2000, many);
             for (int u = 1; u < (unit == -1 ? 65 : unit); u++) {
                 due(28, "too many", x.would(u, 3, 2000) > many, true);
