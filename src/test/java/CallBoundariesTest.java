@@ -62,6 +62,7 @@ public final class CallBoundariesTest {
         align();
         pair();
         pairReplays();
+        pairBits();
         parts();
         partsByEach();
         look();
@@ -755,7 +756,13 @@ public final class CallBoundariesTest {
         due("there and back", x.changed(0, 0), 8);
         x.run(1);
         due("the next", x.changed(1, 0), 0);
-        due("all of REGISTERS", x.changed(0, 0), 8);
+        due("behind it", x.changed(0, 0), 8);
+        for (int p = 0; p < 40; p++) {
+            RunsBack y = Bench.gone(1, Bench.round());
+            y.poke(p, FLAG, 0);
+            due("registers, by " + p, y.changed(0, 0), p < 8 ? 1 << p : 0);
+            due("cells, by " + p, y.changed(0, 1), p < 8 ? 0 : 1 << (p - 8));
+        }
     }
 
     private static void watched() {
@@ -832,6 +839,12 @@ public final class CallBoundariesTest {
         due("registers at 2", x.hangs(0, 2, 0), 128);
         due("cells at 1", x.hangs(0, 1, 1), 0);
         due("cells at 2", x.hangs(0, 2, 1), MIN);
+        for (int p = 0; p < 40; p++) {
+            RunsBack y = Bench.begun(Bench.round());
+            y.poke(p, FLAG, 0);
+            due("registers, by " + p, y.hangs(0, 0, 0), p < 8 ? 1 << p : 0);
+            due("cells, by " + p, y.hangs(0, 0, 1), p < 8 ? 0 : 1 << (p - 8));
+        }
         due("in all", x.look(2), 3);
         due("of the latest", x.look(10), 3);
     }
@@ -1114,6 +1127,20 @@ public final class CallBoundariesTest {
         due("cells", x.pair(0, NONE, 1, 3), 0);
     }
 
+    private static void pairBits() {
+        Bench.sentence("Promise 30: 2 UNLIKE REGISTERS, 3 UNLIKE CELLS as bits");
+        for (int p = 0; p < 40; p++) {
+            RunsBack x = Bench.gone(1, Bench.calling());
+            x.keep();
+            x.back(0);
+            x.poke(p, FLAG, 0);
+            x.run(1);
+            due("registers, by " + p, x.pair(0, NONE, 0, 2), p < 8 ? 1 << p : 0);
+            due("cells, by " + p, x.pair(0, NONE, 0, 3), p < 8 ? 0 : 1 << (p - 8));
+            due("cells, the other way", x.pair(NONE, 0, 0, 3), p < 8 ? 0 : 1 << (p - 8));
+        }
+    }
+
     private static void parts() {
         Bench.sentence("Promise 31: NONE if they are not; -2 if there are none such");
         RunsBack x = Bench.gone(28, Bench.counting());
@@ -1184,6 +1211,13 @@ public final class CallBoundariesTest {
         x.begin();
         x.run(1);
         due("one on the STACK, or none", x.parts(0, NONE), 1);
+        RunsBack y = Bench.gone(8, i(22, 0), i(17, 1));
+        y.keep();
+        due("the same STACKS", y.parts(0, NONE), NONE);
+        y.begin();
+        y.run(9);
+        due("the same STACKS", y.parts(0, NONE), NONE);
+        due("the same STACKS", y.parts(NONE, NONE), NONE);
     }
 
     // ---- promise 32 ----
