@@ -1207,13 +1207,19 @@ public final class RunsBack {
 
         /** Marks n and all on which it rests; what is looked at always came ahead. */
         void markAllBelow(int n, boolean[] marks) {
-            Arrays.fill(marks, false);
+            unmarkAll(marks);
             mark(marks, n);
             for (int i = Math.min(n, count - 1); i >= 0; i--) {
                 if (isMarked(marks, i)) {
                     mark(marks, lookedOne[i]);
                     mark(marks, lookedTwo[i]);
                 }
+            }
+        }
+
+        private void unmarkAll(boolean[] marks) {
+            for (int n = 0; n < count && n < marks.length; n++) {
+                marks[n] = false;
             }
         }
 
@@ -1239,7 +1245,7 @@ public final class RunsBack {
 
         /** Marks all that rest on an entry of the log. */
         void markAllAbove(int logEntry, boolean[] marks) {
-            Arrays.fill(marks, false);
+            unmarkAll(marks);
             for (int n = 0; n < count && n < PUTS_MOST; n++) {
                 if (entry[n] == logEntry || isMarked(marks, lookedOne[n])
                         || isMarked(marks, lookedTwo[n])) {
@@ -1347,17 +1353,18 @@ public final class RunsBack {
             return counterAt(on) + 1;
         }
 
+        /** From the top down, both at once; neither is deeper than the stack can be. */
         boolean hasStackLike(int t, Run other) {
-            int size = stackSizeAt(t);
-            if (other.stackSizeAt(t) != size) {
-                return false;
-            }
-            for (int k = 0; k < size; k++) {
-                if (stackedAt(t, k) != other.stackedAt(t, k)) {
+            int on = topAt(t);
+            int otherOn = other.topAt(t);
+            for (int i = 0; i < STACK_MOST && on != NONE && otherOn != NONE; i++) {
+                if (counterAt(on) != other.counterAt(otherOn)) {
                     return false;
                 }
+                on = topAt(on);
+                otherOn = other.topAt(otherOn);
             }
-            return true;
+            return on == NONE && otherOn == NONE;
         }
 
         int statusWith(Outside outside) {

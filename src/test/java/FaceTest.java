@@ -5,6 +5,8 @@ import java.lang.reflect.Modifier;
 import java.nio.file.Files;
 import java.nio.file.Path;
 import java.util.TreeSet;
+import java.util.regex.Matcher;
+import java.util.regex.Pattern;
 
 /** The face is the document's and no more; the source keeps to what LANGUAGE.md can be read for. */
 public final class FaceTest {
@@ -94,5 +96,35 @@ public final class FaceTest {
             }
         }
         say(s.chars().allMatch(c -> c < 128), "a sign above 127");
+        library(s);
+        lengths(s);
+    }
+
+    /** Rule 4: of the library only what it lists, and Arrays.fill over numbers alone. */
+    private static void library(String s) {
+        java.util.Set<String> listed = java.util.Set.of("Math.max", "Math.min", "System.arraycopy", "Arrays.fill");
+        Matcher m = Pattern.compile("\\b([A-Z]\\w*)\\.(\\w+)\\(").matcher(s);
+        while (m.find()) {
+            String name = m.group(1) + "." + m.group(2);
+            say(listed.contains(name) || s.contains(" class " + m.group(1) + " {"), "not in the library: " + name);
+        }
+        Matcher fill = Pattern.compile("Arrays\\.fill\\((\\w+)").matcher(s);
+        while (fill.find()) {
+            String row = fill.group(1);
+            say(s.matches("(?s).*\\bint(\\[\\])+ " + row + "\\b.*") && !s.contains("boolean[] " + row),
+                "filled, but no row of numbers: " + row);
+        }
+    }
+
+    /** Rule 11: a method stays short. */
+    private static void lengths(String s) {
+        Matcher m = Pattern.compile("(?m)^( +)[^\\n;=]*\\b(\\w+)\\([^;]*\\) \\{\\n(?s:(.*?))^\\1\\}$").matcher(s);
+        int methods = 0;
+        while (m.find()) {
+            int lines = m.group().split("\n").length;
+            say(lines <= 60, "a long method: " + m.group(2) + ", " + lines + " lines");
+            methods++;
+        }
+        say(methods > 100, "methods were not found: " + methods);
     }
 }
