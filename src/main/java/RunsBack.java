@@ -1091,6 +1091,7 @@ public final class RunsBack {
             return has(n) ? place[n] : NONE;
         }
 
+        /** Here and in numberOf() has(n) is written out, so that a step's calls stay eight deep. */
         int sortOf(int n) {
             return n >= 0 && n < count && n < PUTS_MOST ? sort[n] : NOTHING;
         }

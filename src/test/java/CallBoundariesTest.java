@@ -1211,6 +1211,7 @@ public final class CallBoundariesTest {
         x.begin();
         x.run(1);
         due("one on the STACK, or none", x.parts(0, NONE), 1);
+        due("none on the STACK, or one", x.parts(NONE, 0), 1);
         RunsBack y = Bench.gone(8, i(22, 0), i(17, 1));
         y.keep();
         due("the same STACKS", y.parts(0, NONE), NONE);
@@ -1218,6 +1219,22 @@ public final class CallBoundariesTest {
         y.run(9);
         due("the same STACKS", y.parts(0, NONE), NONE);
         due("the same STACKS", y.parts(NONE, NONE), NONE);
+        y.begin();
+        y.run(5);
+        y.keep();
+        y.code(1, 15, 1, 0, 0);
+        y.begin();
+        y.run(5);
+        due("four on the STACK, or none", y.parts(1, NONE), 2);
+        due("none on the STACK, or four", y.parts(NONE, 1), 2);
+        RunsBack z = Bench.gone(5, i(17, 1), i(17, 2), i(18), i(0));
+        z.keep();
+        z.code(2, 15, 1, 0, 0);
+        z.code(1, 15, 2, 0, 0);
+        z.begin();
+        z.run(5);
+        due("two on the STACK, or one", z.parts(0, NONE), 2);
+        due("one on the STACK, or two", z.parts(NONE, 0), 2);
     }
 
     // ---- promise 32 ----
